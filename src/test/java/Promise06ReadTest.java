@@ -1,0 +1,184 @@
+public final class Promise06ReadTest {
+    public static void main(String[] args) {
+        Check check = new Check();
+        numbers(check);
+        wrongTexts(check);
+        forms(check);
+        leftOut(check);
+        whole(check);
+        success(check);
+        failure(check);
+        check.end();
+    }
+
+    /** 2 rows, 3 variables, and A(1,2) told twice: the later one counts. */
+    private static void numbers(Check check) {
+        ConeForge forge = new ConeForge();
+        forge.begin(5, 8);
+        forge.set(0, 0, 0, 9.0);
+        Build.write(forge, "2 3 1 -2.5 0 4 -5.125\n1 2 3\n2 3 0.01 1 2 -7.05");
+        check.same("read", forge.read(), 2 + 3 + 2 + 9);
+        check.same("m", forge.count(0), 2);
+        check.same("n", forge.count(1), 3);
+        check.same("numbers of A", forge.count(3), 2);
+        check.same("text", forge.count(2), 0);
+        check.same("c(0)", forge.set(2, 0, 0, 0.0), 1.0);
+        check.same("c(1)", forge.set(2, 0, 1, 0.0), -2.5);
+        check.same("c(2)", forge.set(2, 0, 2, 0.0), 0.0);
+        check.same("b(0)", forge.set(1, 0, 0, 0.0), 4.0);
+        check.same("b(1)", forge.set(1, 1, 0, 0.0), -5.125);
+        check.same("A(0,0)", forge.set(0, 0, 0, 0.0), 0.0);
+        check.same("A(0,1)", forge.set(0, 0, 1, 0.0), -7.05);
+        check.same("A(1,2)", forge.set(0, 1, 2, 0.0), 0.01);
+    }
+
+    private static void wrong(Check check, String text, int where) {
+        ConeForge forge = new ConeForge();
+        Build.write(forge, text);
+        String call = "'" + text + "'";
+        check.fails(call, IllegalArgumentException.class, forge::read);
+        check.same(call + " where", forge.where(), where);
+        check.same(call + " keeps the text", forge.count(2), text.length());
+        check.same(call + " keeps m", forge.count(0), 1);
+        check.same(call + " keeps n", forge.count(1), 1);
+        check.same(call + " keeps A", forge.count(3), 0);
+    }
+
+    private static void wrongTexts(Check check) {
+        String[] missing = {"", " ", "\n", "1", "1 ", "1 1", "1 1 5", "1 1 5 ", "1 1 -", "1 1 5.", "1 1 5 -",
+            "1 1 5 7.", "1 1 5 7 1", "1 1 5 7 1 ", "1 1 5 7 1 1", "1 1 5 7 1 1 -", "1 1 5 7 1 1 2.", "2 1 5 7",
+            "1 2 5 7", "* nothing", "1 1 5\n* 7", "1 1 5 7 1 1 2 1"};
+        for (String text : missing) {
+            wrong(check, text, text.length());
+        }
+        String[] sized = {"0", "6", "12", "9999", "0000", "6 1 1 1", "9 x"};
+        for (String text : sized) {
+            wrong(check, text, 0);
+            wrong(check, "\n " + text, 2);
+        }
+        String[] variables = {"5 0", "5 9", "5 10", "5 0009 1"};
+        for (String text : variables) {
+            wrong(check, text, 2);
+        }
+        String[] row = {"1 1 5 7 0 1 2", "1 1 5 7 2 1 2", "1 1 5 7 0", "1 1 5 7 2 x", "1 1 5 7 10 1 2"};
+        for (String text : row) {
+            wrong(check, text, 8);
+        }
+        String[] column = {"1 1 5 7 1 0 2", "1 1 5 7 1 2 2", "1 1 5 7 1 9999", "1 1 5 7 1 2 2x"};
+        for (String text : column) {
+            wrong(check, text, 10);
+        }
+        wrong(check, "1 1 1 5 1 2 3", 10);
+    }
+
+    private static void forms(Check check) {
+        wrong(check, "x", 0);
+        wrong(check, "-1 1 5 7", 0);
+        wrong(check, "+1 1 5 7", 0);
+        wrong(check, ".5", 0);
+        wrong(check, "1. 1 5 7", 1);
+        wrong(check, "1.0 1 5 7", 1);
+        wrong(check, "6.", 1);
+        wrong(check, "6x", 1);
+        wrong(check, "1-", 1);
+        wrong(check, "00001 1 5 7", 4);
+        wrong(check, "1 -1 5 7", 2);
+        wrong(check, "1 1.", 3);
+        wrong(check, "1,1", 1);
+        wrong(check, "1 1 .5 7", 4);
+        wrong(check, "1 1 --5 7", 5);
+        wrong(check, "1 1 - 5 7", 5);
+        wrong(check, "1 1 -.5 7", 5);
+        wrong(check, "1 1 5. 7", 6);
+        wrong(check, "1 1 5.\n7", 6);
+        wrong(check, "1 1 5.x 7", 6);
+        wrong(check, "1 1 5.-1 7", 6);
+        wrong(check, "1 1 5.5. 7", 7);
+        wrong(check, "1 1 00005 7", 8);
+        wrong(check, "1 1 -00005 7", 9);
+        wrong(check, "1 1 5.1234 7", 9);
+        wrong(check, "1 1 5e3 7", 5);
+        wrong(check, "1 1 5-3 7", 5);
+        wrong(check, "1 1 5 7 -1 1 2", 8);
+        wrong(check, "1 1 5 7 1.0 1 2", 9);
+        wrong(check, "1 1 5 7 1 -1 2", 10);
+        wrong(check, "1 1 5 7 1 1.5 2", 11);
+        wrong(check, "1 1 5 7 1 1 2 x", 14);
+        wrong(check, "1 1 5 7 1 1 2*", 13);
+        wrong(check, "1 1 -0.125 1.5.", 14);
+        wrong(check, "1 1 1000.001 7", 4);
+        wrong(check, "1 1 -1001 7", 4);
+        wrong(check, "1 1 5 9999", 6);
+        wrong(check, "1 1 5 7 1 1 1000.5", 12);
+        wrong(check, "1 1 1000.5x 7", 10);
+        good(check, "1 1 1000 -1000.000 1 1 1000.0", 7, 1000.0, -1000.0, 1000.0);
+        good(check, "0001 01 0000.001 -0.1 1 1 -999.999", 7, 0.001, -0.1, -999.999);
+        good(check, "1 1 -0 -0.000 1 1 0.07", 7, 0.0, 0.0, 0.07);
+        good(check, "\n\n  1\n\n1 5\n \n7 \n\n ", 4, 5.0, 7.0, 0.0);
+    }
+
+    private static void good(Check check, String text, int numbers, double c, double b, double a) {
+        ConeForge forge = new ConeForge();
+        Build.write(forge, text);
+        check.same("'" + text + "'", forge.read(), numbers);
+        check.same("'" + text + "' where", forge.where(), -2);
+        check.same("'" + text + "' c", forge.set(2, 0, 0, 0.0), c);
+        check.same("'" + text + "' b", forge.set(1, 0, 0, 0.0), b);
+        check.same("'" + text + "' A", forge.set(0, 0, 0, 0.0), a);
+    }
+
+    private static void leftOut(Check check) {
+        good(check, "* 9 9 x\n1 1\n*\n5\n** 4 *\n7\n* end", 4, 5.0, 7.0, 0.0);
+        good(check, "1 1 5 7 1\n*1\n1\n*2\n3\n*", 7, 5.0, 7.0, 3.0);
+        wrong(check, " * 9\n1 1 5 7", 1);
+        wrong(check, "1 *\n1 5 7", 2);
+        wrong(check, "1 1 5 7 *", 8);
+        wrong(check, "* 1 1 5 7", 9);
+        wrong(check, "* a\n6 1 5 7", 4);
+    }
+
+    /** All digits that may stand behind the point, to the last bit. */
+    private static void whole(Check check) {
+        ConeForge forge = new ConeForge();
+        for (int k = 0; k < 1000; k += 37) {
+            String digits = String.valueOf(1000 + k).substring(1);
+            Build.write(forge, "1 1 3." + digits + " -7." + digits.substring(0, 2) + " 1 1 0." + digits.charAt(0));
+            forge.read();
+            check.same("3." + digits, forge.set(2, 0, 0, 0.0), (3000 + k) / 1000.0);
+            check.same("-7." + digits.substring(0, 2), forge.set(1, 0, 0, 0.0), -((700 + k / 10) / 100.0));
+            check.same("0." + digits.charAt(0), forge.set(0, 0, 0, 0.0), k / 100 / 10.0);
+        }
+    }
+
+    private static void success(Check check) {
+        ConeForge forge = Build.solvable();
+        forge.scaling(false);
+        forge.simplex();
+        Build.write(forge, "5 8 1 2 3 4 5 6 7 8 9 10 11 12 13 5 8 14");
+        check.same("read", forge.read(), 18);
+        check.same("told no more", forge.count(5), 0);
+        check.same("scaling", forge.count(4), 0);
+        check.same("effort", forge.effort(), 2);
+        check.same("numbers of A", forge.count(3), 1);
+        check.same("c(7)", forge.set(2, 0, 7, 0.0), 8.0);
+        check.same("b(0)", forge.set(1, 0, 0, 0.0), 9.0);
+        check.same("b(4)", forge.set(1, 4, 0, 0.0), 13.0);
+        check.same("A(4,7)", forge.set(0, 4, 7, 0.0), 14.0);
+        check.fails("the text is empty", IllegalArgumentException.class, forge::read);
+        check.same("where", forge.where(), 0);
+    }
+
+    private static void failure(Check check) {
+        ConeForge forge = Build.solvable();
+        forge.simplex();
+        Build.write(forge, "1 1 5 7 1 1 2 1");
+        check.fails("read", IllegalArgumentException.class, forge::read);
+        check.same("told behind a read that threw", forge.told(0, 0), 3.0);
+        check.same("m", forge.count(0), 2);
+        check.same("numbers of A", forge.count(3), 6);
+        check.same("b(1)", forge.set(1, 1, 0, 1.0), 6.0);
+        Build.write(forge, " 1 4");
+        check.same("read when the end has come", forge.read(), 10);
+        check.same("A(0,0)", forge.set(0, 0, 0, 1.0), 4.0);
+    }
+}
