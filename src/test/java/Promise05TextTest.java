@@ -51,7 +51,10 @@ public final class Promise05TextTest {
         check.same("nothing came", forge.count(2), 296);
         check.same("four more", forge.text(0x2020002020L), 300);
         check.same("none more", forge.text(0L), 300);
-        check.fails("one more", IllegalStateException.class, () -> forge.text(32L));
+        for (int place = 0; place < 8; place++) {
+            final long blank = 32L << 8 * place;
+            check.fails("one more", IllegalStateException.class, () -> forge.text(blank));
+        }
         check.fails("one bad more", IllegalArgumentException.class, () -> forge.text(1L));
         check.same("still 300", forge.count(2), 300);
         check.fails("read", IllegalArgumentException.class, forge::read);

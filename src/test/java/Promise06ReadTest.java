@@ -6,6 +6,7 @@ public final class Promise06ReadTest {
         forms(check);
         leftOut(check);
         whole(check);
+        fullTexts(check);
         success(check);
         failure(check);
         check.end();
@@ -148,6 +149,20 @@ public final class Promise06ReadTest {
             check.same("-7." + digits.substring(0, 2), forge.set(1, 0, 0, 0.0), -((700 + k / 10) / 100.0));
             check.same("0." + digits.charAt(0), forge.set(0, 0, 0, 0.0), k / 100 / 10.0);
         }
+    }
+
+    /** Texts of 300 characters, whose end is also the end of the room for them. */
+    private static void fullTexts(Check check) {
+        String[] ends = {"1 1 5 7 1 1 2", "1 1 5 7 1 1 2.125", "1 1 5 7 1 1 1000"};
+        double[] due = {2.0, 2.125, 1000.0};
+        for (int k = 0; k < ends.length; k++) {
+            good(check, " ".repeat(300 - ends[k].length()) + ends[k], 7, 5.0, 7.0, due[k]);
+        }
+        String[] broken = {"1", "1 1 5 -", "1 1 5 7.", "1 1 5 7 1", "1 1 5 7 1 1"};
+        for (String end : broken) {
+            wrong(check, " ".repeat(300 - end.length()) + end, 300);
+        }
+        good(check, "1 1 5 7" + " 1 1 2".repeat(47) + " 1 1 0.125", 4 + 3 * 48, 5.0, 7.0, 0.125);
     }
 
     private static void success(Check check) {

@@ -11,6 +11,9 @@ public final class Promise09SimplexTest {
         growthEdge(check);
         lostBySteps(check);
         unboundedInPhaseOne(check);
+        smallLeftovers(check);
+        widest(check);
+        usedBefore(check);
         check.end();
     }
 
@@ -72,6 +75,10 @@ public final class Promise09SimplexTest {
         check.same("unscaled", forge.simplex(), 1);
         check.same("y", forge.told(2, 0), -1.0);
         check.same("no step", forge.effort(), 0);
+        ConeForge above = Build.problem(new double[][] {{8}}, new double[] {-1e-6}, new double[] {0});
+        check.same("w is 1.25e-7", above.simplex(), 1);
+        ConeForge below = Build.problem(new double[][] {{16}}, new double[] {-1e-6}, new double[] {0});
+        check.same("w is 6.25e-8", below.simplex(), 0);
     }
 
     private static void unbounded(Check check) {
@@ -147,5 +154,48 @@ public final class Promise09SimplexTest {
         check.same("no row goes out", forge.simplex(), 2);
         check.same("steps", forge.effort(), 1);
         told(check, "ray", forge, new double[] {0.8 / 1000.0, 1}, new double[2], new double[5]);
+    }
+
+    /** The leftover's number is 4.9e-9, so it goes out, or 9.8e-10, so it stays. */
+    private static void smallLeftovers(Check check) {
+        double[] b = {-1e-6, 0};
+        double[] c = {-5, -1, 0};
+        ConeForge out = Build.problem(new double[][] {{5e-6, 0, 1000}, {1, 1, 0}}, b, c);
+        check.same("above 1e-9", out.simplex(), 0);
+        check.same("x(0) is about -0.2", out.told(0, 0) < -0.19 && out.told(0, 0) > -0.21, true);
+        ConeForge stays = Build.problem(new double[][] {{1e-6, 0, 1000}, {1, 1, 0}}, b, c);
+        check.same("not above 1e-9", stays.simplex(), 0);
+        check.same("x(0)", stays.told(0, 0), 0.0);
+        check.same("y(1)", stays.told(2, 1), -5.0);
+    }
+
+    /** With 8 variables the leftovers of all rows stay basic. */
+    private static void widest(Check check) {
+        ConeForge forge = new ConeForge();
+        forge.begin(5, 8);
+        check.same("nothing but zeros", forge.simplex(), 0);
+        told(check, "zeros", forge, new double[8], new double[8], new double[5]);
+        forge.set(2, 0, 7, -1.0);
+        check.same("the last one is free", forge.simplex(), 2);
+        told(check, "free", forge, new double[] {0, 0, 0, 0, 0, 0, 0, 1}, new double[8], new double[5]);
+    }
+
+    private static void usedBefore(Check check) {
+        ConeForge forge = Build.solvable();
+        forge.simplex();
+        forge.set(1, 0, 0, -4.0);
+        check.same("solved, then infeasible", forge.simplex(), 1);
+        told(check, "infeasible behind solved", forge, new double[4], new double[4],
+                new double[] {forge.told(2, 0), forge.told(2, 1)});
+        check.same("its certificate", forge.certifies(1, 0.0), true);
+        forge.set(1, 0, 0, 4.0);
+        forge.simplex();
+        forge.set(0, 0, 1, -1.0);
+        forge.set(0, 1, 1, -3.0);
+        check.same("solved, then unbounded", forge.simplex(), 2);
+        check.same("s(2)", forge.told(1, 2), 0.0);
+        check.same("y(0)", forge.told(2, 0), 0.0);
+        check.same("y(1)", forge.told(2, 1), 0.0);
+        check.same("its certificate", forge.certifies(2, 0.0), true);
     }
 }
