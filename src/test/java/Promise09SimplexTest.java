@@ -159,13 +159,14 @@ public final class Promise09SimplexTest {
     /** The leftover's number is 4.9e-9, so it goes out, or 9.8e-10, so it stays. */
     private static void smallLeftovers(Check check) {
         double[] b = {-1e-6, 0};
-        double[] c = {-5, -1, 0};
-        ConeForge out = Build.problem(new double[][] {{5e-6, 0, 1000}, {1, 1, 0}}, b, c);
+        ConeForge out = Build.problem(new double[][] {{5e-6, 0, 1000}, {1, 1, 0}}, b, new double[] {-5, -1, 0});
         check.same("above 1e-9", out.simplex(), 0);
         check.same("x(0) is about -0.2", out.told(0, 0) < -0.19 && out.told(0, 0) > -0.21, true);
-        ConeForge stays = Build.problem(new double[][] {{1e-6, 0, 1000}, {1, 1, 0}}, b, c);
+        ConeForge stays = Build.problem(new double[][] {{1e-6, 0, 1000}, {1, 1, 0}}, b, new double[] {-1, -5, 0});
         check.same("not above 1e-9", stays.simplex(), 0);
-        check.same("x(0)", stays.told(0, 0), 0.0);
+        check.same("steps", stays.effort(), 2);
+        check.same("x(1)", stays.told(0, 1), 0.0);
+        check.same("x(2)", stays.told(0, 2), 0.0);
         check.same("y(1)", stays.told(2, 1), -5.0);
     }
 
