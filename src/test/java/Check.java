@@ -16,6 +16,10 @@ final class Check {
         note(got == due, what, String.valueOf(got), String.valueOf(due));
     }
 
+    void same(String what, String got, String due) {
+        note(got.equals(due), what, got, due);
+    }
+
     void fails(String what, Class<? extends RuntimeException> due, Runnable call) {
         String got = "nothing";
         try {

@@ -4,6 +4,8 @@ public final class Promise05TextTest {
         eachByte(check);
         order(check);
         full(check);
+        refusedWhole(check);
+        emptiedByRead(check);
         check.end();
     }
 
@@ -59,5 +61,30 @@ public final class Promise05TextTest {
         check.same("still 300", forge.count(2), 300);
         check.fails("read", IllegalArgumentException.class, forge::read);
         check.same("the end is missing", forge.where(), 300);
+    }
+
+    /** None of the characters of a refused call come, so that what is read later has none of them. */
+    private static void refusedWhole(Check check) {
+        ConeForge forge = new ConeForge();
+        Build.write(forge, " ".repeat(287) + "1 1 5 7 1");
+        check.same("characters", forge.count(2), 296);
+        check.fails("' 1 23' is one too many", IllegalStateException.class, () -> forge.text(0x2031203233L));
+        check.fails("' 1 ' and a 9", IllegalArgumentException.class, () -> forge.text(0x20312009L));
+        check.fails("a 127 and ' 1 '", IllegalArgumentException.class, () -> forge.text(0x7F203120L));
+        check.same("still", forge.count(2), 296);
+        check.same("' 1 4' fits", forge.text(0x20312034L), 300);
+        check.same("read", forge.read(), 7);
+        check.same("A(0,0)", forge.set(0, 0, 0, 0.0), 4.0);
+    }
+
+    private static void emptiedByRead(Check check) {
+        ConeForge forge = new ConeForge();
+        Build.write(forge, "1 1 5 7" + " ".repeat(293));
+        check.fails("full", IllegalStateException.class, () -> forge.text(32L));
+        check.same("read", forge.read(), 4);
+        check.same("the first of the next text", forge.text(49L), 1);
+        Build.write(forge, " ".repeat(299));
+        check.same("full again", forge.count(2), 300);
+        check.fails("one more", IllegalStateException.class, () -> forge.text(32L));
     }
 }

@@ -7,8 +7,13 @@ public final class Promise06ReadTest {
         leftOut(check);
         whole(check);
         fullTexts(check);
+        sizes(check);
+        places(check);
+        digits(check);
+        values(check);
         success(check);
         failure(check);
+        failureKeepsAll(check);
         check.end();
     }
 
@@ -165,6 +170,107 @@ public final class Promise06ReadTest {
         good(check, "1 1 5 7" + " 1 1 2".repeat(47) + " 1 1 0.125", 4 + 3 * 48, 5.0, 7.0, 0.125);
     }
 
+    /** m is 1 to 5 and n is 1 to 8, and there are n of c and m of b: with one fewer the end is missing. */
+    private static void sizes(Check check) {
+        for (int m = 0; m <= 12; m++) {
+            for (int n = 0; n <= 12; n++) {
+                String begin = m + " " + n;
+                if (m < 1 || m > 5) {
+                    wrong(check, begin, 0);
+                } else if (n < 1 || n > 8) {
+                    wrong(check, begin, 2);
+                } else {
+                    sized(check, m, n);
+                }
+            }
+        }
+    }
+
+    private static void sized(Check check, int m, int n) {
+        String few = m + " " + n + " 7".repeat(m + n - 1);
+        wrong(check, few, few.length());
+        ConeForge forge = new ConeForge();
+        Build.write(forge, few + " 9");
+        check.same("'" + few + " 9'", forge.read(), 2 + m + n);
+        check.same("m", forge.count(0), m);
+        check.same("n", forge.count(1), n);
+        check.same("the last b", forge.set(1, m - 1, 0, 0.0), 9.0);
+        check.same("the last c", forge.set(2, 0, n - 1, 0.0), 7.0);
+    }
+
+    /** i is 1 to m and j is 1 to n. */
+    private static void places(Check check) {
+        String begin = "2 3 7 7 7 7 7 ";
+        for (int i = 0; i <= 10; i++) {
+            for (int j = 0; j <= 10; j++) {
+                String text = begin + i + " " + j + " 4";
+                if (i < 1 || i > 2) {
+                    wrong(check, text, 14);
+                } else if (j < 1 || j > 3) {
+                    wrong(check, text, 16);
+                } else {
+                    ConeForge forge = new ConeForge();
+                    Build.write(forge, text);
+                    check.same("'" + text + "'", forge.read(), 10);
+                    check.same("numbers of A", forge.count(3), 1);
+                    check.same("A(" + i + "," + j + ")", forge.set(0, i - 1, j - 1, 0.0), 4.0);
+                }
+            }
+        }
+        ConeForge twice = new ConeForge();
+        Build.write(twice, "1 1 5 7 1 1 2 1 1 0");
+        check.same("told twice", twice.read(), 10);
+        check.same("the later one is 0", twice.count(3), 0);
+    }
+
+    /** "one to four digits, perhaps . and one to three digits". */
+    private static void digits(Check check) {
+        for (int whole = 0; whole <= 6; whole++) {
+            for (int part = 0; part <= 5; part++) {
+                String number = "0".repeat(Math.max(0, whole - 1)) + (whole > 0 ? "6" : "")
+                        + (part > 0 ? "." + "1234567".substring(0, part) : "");
+                if (whole == 0) {
+                    wrong(check, "1 1 " + number + " 7", part > 0 ? 4 : 6);
+                } else if (whole > 4) {
+                    wrong(check, "1 1 " + number + " 7", 8);
+                    wrong(check, "1 1 -" + number + " 7", 9);
+                } else if (part > 3) {
+                    wrong(check, "1 1 " + number + " 7", 4 + whole + 4);
+                } else {
+                    double due = Double.parseDouble(number);
+                    good(check, "1 1 " + number + " -" + number + " 1 1 " + number, 7, due, -due, due);
+                }
+            }
+        }
+        for (int zeros = 0; zeros <= 3; zeros++) {
+            String one = "0".repeat(zeros) + "1";
+            good(check, one + " " + one + " 5 7 " + one + " " + one + " 2", 7, 5.0, 7.0, 2.0);
+        }
+        wrong(check, "00001 1 5 7", 4);
+        wrong(check, "1 00001 5 7", 6);
+        wrong(check, "1 1 5 7 00001 1 2", 12);
+        wrong(check, "1 1 5 7 1 00001 2", 14);
+    }
+
+    /** As with set, nothing above 1000 and nothing below -1000: as c, as b, and as A. */
+    private static void values(Check check) {
+        String[] most = {"1000", "1000.0", "1000.00", "1000.000", "999.999", "0999.999"};
+        for (String number : most) {
+            double due = Double.parseDouble(number);
+            good(check, "1 1 " + number + " -" + number + " 1 1 " + number, 7, due, -due, due);
+            good(check, "1 1 -" + number + " " + number + " 1 1 -" + number, 7, -due, due, -due);
+        }
+        String[] more = {"1000.001", "1000.01", "1000.1", "1001", "9999", "9999.999"};
+        for (String number : more) {
+            wrong(check, "1 1 " + number + " 7", 4);
+            wrong(check, "1 1 -" + number + " 7", 4);
+            wrong(check, "1 1 5 " + number, 6);
+            wrong(check, "1 1 5 -" + number, 6);
+            wrong(check, "1 1 5 7 1 1 " + number, 12);
+            wrong(check, "1 1 5 7 1 1 -" + number, 12);
+        }
+    }
+
     private static void success(Check check) {
         ConeForge forge = Build.solvable();
         forge.scaling(false);
@@ -195,5 +301,20 @@ public final class Promise06ReadTest {
         Build.write(forge, " 1 4");
         check.same("read when the end has come", forge.read(), 10);
         check.same("A(0,0)", forge.set(0, 0, 0, 1.0), 4.0);
+    }
+
+    /** A text that fails with its last number, when all the others were taken already. */
+    private static void failureKeepsAll(Check check) {
+        String[] texts = {"1 1 5 7 1 1 2000", "5 8 1 2 3 4 5 6 7 8 9 10 11 12 13 5 8 14 1 1", "2 4 9 9 9 9 9 9 1 1 8 2 5"};
+        for (String text : texts) {
+            ConeForge touched = Build.solvable();
+            touched.interior(5);
+            Build.write(touched, text);
+            check.fails("'" + text + "'", IllegalArgumentException.class, touched::read);
+            ConeForge untouched = Build.solvable();
+            untouched.interior(5);
+            Build.write(untouched, text);
+            Look.same(check, "'" + text + "'", touched, untouched, false);
+        }
     }
 }

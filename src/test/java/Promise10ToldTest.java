@@ -3,6 +3,7 @@ public final class Promise10ToldTest {
         Check check = new Check();
         unsolved(check);
         indices(check);
+        allSizes(check);
         forgotten(check);
         unscaled(check);
         check.end();
@@ -44,6 +45,32 @@ public final class Promise10ToldTest {
         tall.simplex();
         check.same("y(2) of a tall one", tall.told(2, 2), 0.0);
         check.fails("x(1) of a tall one", IndexOutOfBoundsException.class, () -> tall.told(0, 1));
+    }
+
+    /** The last x, s and y of each size, and the one behind it. */
+    private static void allSizes(Check check) {
+        for (int m = 1; m <= 5; m++) {
+            for (int n = 1; n <= 8; n++) {
+                ConeForge forge = new ConeForge();
+                forge.begin(m, n);
+                forge.set(0, m - 1, n - 1, 1.0);
+                forge.set(1, m - 1, 0, 3.0);
+                forge.set(2, 0, n - 1, 2.0);
+                forge.simplex();
+                String size = " of " + m + " and " + n;
+                check.same("last x" + size, forge.told(0, n - 1), 3.0);
+                check.same("last s" + size, forge.told(1, n - 1), 0.0);
+                check.same("last y" + size, forge.told(2, m - 1), 2.0);
+                check.same("c . x" + size, forge.told(3, n), 6.0);
+                check.same("b . y" + size, forge.told(4, m), 6.0);
+                final int rows = m;
+                final int variables = n;
+                check.fails("x(n)" + size, IndexOutOfBoundsException.class, () -> forge.told(0, variables));
+                check.fails("s(n)" + size, IndexOutOfBoundsException.class, () -> forge.told(1, variables));
+                check.fails("y(m)" + size, IndexOutOfBoundsException.class, () -> forge.told(2, rows));
+                check.same("told behind them" + size, forge.count(5), 1);
+            }
+        }
     }
 
     private static void forgotten(Check check) {

@@ -5,6 +5,7 @@ public final class Promise13CertifiesTest {
         Check check = new Check();
         thrown(check);
         solutions(check);
+        productBelow(check);
         noSolution(check);
         noLeast(check);
         noLeastBelow(check);
@@ -63,6 +64,19 @@ public final class Promise13CertifiesTest {
         check.same("gap(3) is e", below.certifies(0, deep), true);
     }
 
+    /** "gap 2 not above e and not below -e": 5 x0 = 851 is solved with an s(0) that is a little below 0. */
+    private static void productBelow(Check check) {
+        ConeForge forge = Build.problem(new double[][] {{5}}, new double[] {851}, new double[] {3});
+        check.same("simplex", forge.simplex(), 0);
+        double product = forge.gap(2);
+        check.same("gap(2)", product, -7.558398351648065E-14);
+        check.same("gap(3) is less", forge.gap(3) < -product, true);
+        check.same("gap(2) is -e", forge.certifies(0, -product), true);
+        check.same("gap(2) below -e", forge.certifies(0, Math.nextDown(-product)), false);
+        check.same("gap(2) far below -e", forge.certifies(0, 0.0), false);
+        check.same("gap(2) far above -e", forge.certifies(0, 1.0), true);
+    }
+
     private static void noSolution(Check check) {
         ConeForge forge = Build.infeasible();
         forge.simplex();
@@ -103,7 +117,9 @@ public final class Promise13CertifiesTest {
         ConeForge forge = Build.problem(a, new double[] {-1e-6, 0, 1e-4}, new double[] {-5, -1, 0, -1000});
         check.same("simplex", forge.simplex(), 0);
         check.same("x(0) is below 0", forge.told(0, 0) < -0.0009, true);
-        check.same("x(0) below -e", forge.certifies(2, 0.0005), false);
-        check.same("x(0) not below -e", forge.certifies(2, 0.002), true);
+        double deep = -forge.told(0, 0);
+        check.same("x(0) below -e", forge.certifies(2, Math.nextDown(deep)), false);
+        check.same("x(0) is -e", forge.certifies(2, deep), true);
+        check.same("x(0) above -e", forge.certifies(2, 0.002), true);
     }
 }

@@ -2,6 +2,7 @@ public final class Promise15ScaleTest {
     public static void main(String[] args) {
         Check check = new Check();
         thrown(check);
+        allSizes(check);
         powers(check);
         columns(check);
         asScalingIs(check);
@@ -24,6 +25,25 @@ public final class Promise15ScaleTest {
         check.fails("R(2)", IndexOutOfBoundsException.class, () -> forge.scale(0, 2));
         check.same("R(1) of zeros", forge.scale(0, 1), 1.0);
         check.same("S(2) of zeros", forge.scale(1, 2), 1.0);
+    }
+
+    /** The last R and S of each size, and the one behind it. */
+    private static void allSizes(Check check) {
+        for (int m = 1; m <= 5; m++) {
+            for (int n = 1; n <= 8; n++) {
+                ConeForge forge = new ConeForge();
+                forge.begin(m, n);
+                forge.set(0, m - 1, n - 1, 1000.0);
+                String size = " of " + m + " and " + n;
+                check.same("last R" + size, forge.scale(0, m - 1), 1.0 / 1024.0);
+                check.same("last S" + size, forge.scale(1, n - 1), 1.0);
+                check.same("first R" + size, forge.scale(0, 0), m == 1 ? 1.0 / 1024.0 : 1.0);
+                final int rows = m;
+                final int variables = n;
+                check.fails("R(m)" + size, IndexOutOfBoundsException.class, () -> forge.scale(0, rows));
+                check.fails("S(n)" + size, IndexOutOfBoundsException.class, () -> forge.scale(1, variables));
+            }
+        }
     }
 
     private static void powers(Check check) {
