@@ -51,6 +51,16 @@ final class Build {
         return problem(new double[][] {{1, -4}}, new double[] {2}, new double[] {0, -1});
     }
 
+    /** All 5 rows and 8 variables: x(i) + x5 + (i + 1) x6 - x7 = b(i). */
+    static ConeForge widest() {
+        double[][] a = new double[5][];
+        for (int i = 0; i < 5; i++) {
+            a[i] = new double[] {0, 0, 0, 0, 0, 1, i + 1, -1};
+            a[i][i] = 1;
+        }
+        return problem(a, new double[] {2, 9, 4, 1, 7}, new double[] {1, 2, 3, 4, 5, 3, 3, 3});
+    }
+
     /** Two rows that are the same. */
     static ConeForge singular() {
         return problem(new double[][] {{1, 1}, {1, 1}}, new double[] {1, 1}, new double[] {1, 2});

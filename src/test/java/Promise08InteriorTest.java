@@ -7,6 +7,7 @@ public final class Promise08InteriorTest {
         singular(check);
         singularEdge(check);
         startsAnew(check);
+        widest(check);
         check.end();
     }
 
@@ -83,6 +84,24 @@ public final class Promise08InteriorTest {
         check.same("M above 1e-13", small.interior(1), 4);
         ConeForge none = Build.problem(new double[][] {{0}}, new double[] {1}, new double[] {1});
         check.fails("M is 0", ArithmeticException.class, () -> none.interior(1));
+    }
+
+    /** All 5 rows and 8 variables: x is (1.75, 8.5, 3.25, 0, 5.75, 0, 0.25, 0). */
+    private static void widest(Check check) {
+        ConeForge forge = Build.widest();
+        check.same("interior(100)", forge.interior(100), 0);
+        check.same("turns begun", forge.effort(), 11);
+        check.same("its certificate", forge.certifies(0, 1e-5), true);
+        double[] x = {1.75, 8.5, 3.25, 0, 5.75, 0, 0.25, 0};
+        double[] s = {0, 0, 0, 13, 0, 1, 0, 5};
+        double[] y = {1, 2, 3, -9, 5};
+        for (int j = 0; j < 8; j++) {
+            check.same("x(" + j + ")", Math.abs(forge.told(0, j) - x[j]) < 1e-6, true);
+            check.same("s(" + j + ")", Math.abs(forge.told(1, j) - s[j]) < 1e-6, true);
+        }
+        for (int i = 0; i < 5; i++) {
+            check.same("y(" + i + ")", Math.abs(forge.told(2, i) - y[i]) < 1e-6, true);
+        }
     }
 
     private static void startsAnew(Check check) {

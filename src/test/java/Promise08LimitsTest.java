@@ -15,7 +15,9 @@ public final class Promise08LimitsTest {
         lostByGreatY(check);
         lostBySmallX(check);
         lostBySmallS(check);
+        lostByFirst(check);
         singular(check);
+        lengthOfStep(check);
         solvedBeforeLost(check);
         lostBeforeSingular(check);
         check.end();
@@ -118,6 +120,34 @@ public final class Promise08LimitsTest {
         }
     }
 
+    /** As above, but it is x(0) or s(0) alone that is not inside. */
+    private static void lostByFirst(Check check) {
+        double[] small = {0.15156636125808293, 0.1515663612580829};
+        for (int k = 0; k < 2; k++) {
+            ConeForge x = Build.problem(new double[][] {{-2, -3, 2}}, new double[] {-2},
+                    new double[] {small[k], 4, -2});
+            end(check, "great x(0) with c " + small[k], x, 5, 4 - k);
+        }
+        double[] great = {1.8626, 1.8627};
+        for (int k = 0; k < 2; k++) {
+            ConeForge s = Build.problem(new double[][] {{1e-6, 0, 1000}}, new double[] {1000},
+                    new double[] {great[k], 1000, -1000});
+            end(check, "great s(0) with c " + great[k], s, 4, 4 - k);
+        }
+        double[] wide = {491.63, 491.64};
+        for (int k = 0; k < 2; k++) {
+            ConeForge x = Build.problem(new double[][] {{0.001, wide[k]}}, new double[] {-1e-6}, new double[] {1, 1});
+            end(check, "small x(0) with A " + wide[k], x, 9, 4 - k);
+        }
+        double[] narrow = {-0.27, -0.26};
+        for (int k = 0; k < 2; k++) {
+            ConeForge s = Build.problem(new double[][] {{narrow[k], -0.001, 100}}, new double[] {1000},
+                    new double[] {-1e-6, 1000, 0});
+            s.scaling(false);
+            end(check, "small s(0) with A " + narrow[k], s, 9, 4 - k);
+        }
+    }
+
     /** "SINGULAR, if w <= 1e-13", with one row and with two. */
     private static void singular(Check check) {
         double[] b = {0.571880913827128, 0.5718809138271316, 0.5718809138271479};
@@ -131,6 +161,25 @@ public final class Promise08LimitsTest {
                     new double[] {-0.01, 0.001});
             end(check, "w with A " + a[k], forge, 5, k < 2 ? THROWS : 4);
         }
+    }
+
+    /** "a is the least of 1 and of 0.995 * (x(j) / -X(j)) .. e likewise": x0 = b with T = 0.1 - b and X = b - 1. */
+    private static void lengthOfStep(Check check) {
+        double[] b = {1, 2, -1};
+        double[] x = {1, 2, 0.005};
+        double[] s = {0.1, 0.005, 2.1};
+        double[] y = {0.9, 0.995, -1.1};
+        for (int k = 0; k < b.length; k++) {
+            ConeForge forge = Build.problem(new double[][] {{1}}, new double[] {b[k]}, new double[] {1});
+            check.same("one turn for b " + b[k], forge.interior(1), 4);
+            near(check, "x for b " + b[k], forge.told(0, 0), x[k]);
+            near(check, "s for b " + b[k], forge.told(1, 0), s[k]);
+            near(check, "y for b " + b[k], forge.told(2, 0), y[k]);
+        }
+    }
+
+    private static void near(Check check, String name, double got, double due) {
+        check.same(name + " is near " + due + " with " + got, Math.abs(got - due) < 1e-14, true);
     }
 
     /** "SOLVED .. Else LOST": where both would fit it is solved. */

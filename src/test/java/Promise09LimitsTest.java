@@ -245,6 +245,10 @@ public final class Promise09LimitsTest {
                     new double[2]);
             plus.scaling(false);
             check.same("1e12 and " + more[k] + " in A", plus.simplex(), k == 0 ? 0 : 3);
+            ConeForge above = Build.problem(new double[][] {{1000, -more[k]}, {1e-6, 1000}}, new double[] {1, 0},
+                    new double[2]);
+            above.scaling(false);
+            ends(check, "-1e12 and -" + more[k] + " in the first row", above, k == 0 ? 1 : 3, 1);
             ConeForge right = Build.problem(new double[][] {{1e-6, 1, 0}, {-1000, 0, 1}},
                     new double[] {1000, more[k]}, new double[] {-1, 0, 0});
             right.scaling(false);

@@ -179,6 +179,10 @@ public final class Promise09SimplexTest {
         forge.set(2, 0, 7, -1.0);
         check.same("the last one is free", forge.simplex(), 2);
         told(check, "free", forge, new double[] {0, 0, 0, 0, 0, 0, 0, 1}, new double[8], new double[5]);
+        ConeForge solved = Build.widest();
+        check.same("5 rows and 8 variables", solved.simplex(), 0);
+        told(check, "widest", solved, new double[] {1.75, 8.5, 3.25, 0, 5.75, 0, 0.25, 0},
+                new double[] {0, 0, 0, 13, 0, 1, 0, 5}, new double[] {1, 2, 3, -9, 5});
     }
 
     private static void usedBefore(Check check) {

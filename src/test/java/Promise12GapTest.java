@@ -5,6 +5,7 @@ public final class Promise12GapTest {
         solved(check);
         rays(check);
         below(check);
+        firstAndLast(check);
         check.end();
     }
 
@@ -50,6 +51,32 @@ public final class Promise12GapTest {
         none.simplex();
         check.same("gap(0), x being 0", none.gap(0), 3.0);
         check.same("gap(1), y being (-1/8, 1)", none.gap(1), 4.0);
+    }
+
+    /** With 5 rows and 8 variables of zeros, be the greatest the first or the last, above 0 or below it. */
+    private static void firstAndLast(Check check) {
+        for (int sign = -1; sign <= 1; sign += 2) {
+            for (int i = 0; i < 5; i += 4) {
+                ConeForge none = new ConeForge();
+                none.begin(5, 8);
+                none.set(1, 2, 0, 1.0);
+                none.set(1, i, 0, sign * 7.0);
+                check.same("simplex", none.simplex(), 1);
+                check.same("gap(0), b(" + i + ") being " + sign * 7, none.gap(0), 7.0);
+                check.same("gap(1), all being 0", none.gap(1), 0.0);
+            }
+            for (int j = 0; j < 8; j += 7) {
+                ConeForge ray = new ConeForge();
+                ray.begin(5, 8);
+                ray.set(2, 0, 3, -1.0);
+                ray.set(2, 0, j, sign * 7.0);
+                check.same("simplex", ray.simplex(), 2);
+                check.same("gap(1), c(" + j + ") being " + sign * 7, ray.gap(1), 7.0);
+                check.same("gap(0), all being 0", ray.gap(0), 0.0);
+                check.same("gap(2), s being 0", ray.gap(2), 0.0);
+                check.same("gap(3), none being below 0", ray.gap(3), 0.0);
+            }
+        }
     }
 
     private static void below(Check check) {

@@ -9,6 +9,7 @@ public final class Promise13CertifiesTest {
         noSolution(check);
         noLeast(check);
         noLeastBelow(check);
+        firstAndLast(check);
         check.end();
     }
 
@@ -109,6 +110,42 @@ public final class Promise13CertifiesTest {
         turned.simplex();
         check.same("|A x| = |-1| is not above 1", turned.certifies(2, 1.0), true);
         check.same("|A x| = |-1| is above less", turned.certifies(2, BELOW_ONE), false);
+    }
+
+    /** With 5 rows and 8 variables: it is the first or the last column, or row, that is 1, so not above 1 alone. */
+    private static void firstAndLast(Check check) {
+        for (int j = 0; j < 8; j += 7) {
+            ConeForge none = new ConeForge();
+            none.begin(5, 8);
+            for (int i = 0; i < 5; i++) {
+                none.set(1, i, 0, 3.0);
+            }
+            none.set(0, 4, j, 2.0);
+            none.set(2, 0, j, 2.0);
+            none.set(1, 4, 0, 4.0);
+            check.same("simplex", none.simplex(), 1);
+            check.same("no column above 0", none.certifies(1, 0.0), true);
+            for (int i = 0; i < 4; i++) {
+                none.set(1, i, 0, 0.0);
+            }
+            check.same("simplex", none.simplex(), 0);
+            check.same("column " + j + " is 2", none.certifies(1, 1.0), false);
+            none.set(0, 4, j, 1.0);
+            none.set(2, 0, j, 1.0);
+            check.same("simplex", none.simplex(), 0);
+            check.same("column " + j + " is 1", none.certifies(1, 1.0), true);
+            check.same("column " + j + " is above less", none.certifies(1, BELOW_ONE), false);
+        }
+        for (int i = 0; i < 5; i += 4) {
+            ConeForge ray = new ConeForge();
+            ray.begin(5, 8);
+            ray.set(0, i, 7, 1.0);
+            ray.set(1, i, 0, 1.0);
+            ray.set(2, 0, 7, -9.0);
+            check.same("simplex", ray.simplex(), 0);
+            check.same("row " + i + " is 1", ray.certifies(2, 1.0), true);
+            check.same("row " + i + " is above less", ray.certifies(2, BELOW_ONE), false);
+        }
     }
 
     /** A leftover of phase 1 with a small number goes out: x(0) is about -0.001, x(1) about 0.001, x(3) 0.0001. */
