@@ -20,6 +20,7 @@ public final class Promise08LimitsTest {
         lengthOfStep(check);
         solvedBeforeLost(check);
         lostBeforeSingular(check);
+        hundredTurns(check);
         check.end();
     }
 
@@ -204,6 +205,27 @@ public final class Promise08LimitsTest {
                     check.same("y", forge.told(2, 0), sign * Math.nextUp(1e9));
                 }
             }
+        }
+    }
+
+    /** "at most turns TURNS begun (1 to 100)": SOLVED in the 100th TURN, LOST in it, and LOST only in the 101st. */
+    private static void hundredTurns(Check check) {
+        double[][] a = {{-1e-4, 100, 3, 0.01, -1e-5, -1e-6}, {1, 0.001, -300, 0.001, -7, 0.01},
+            {-1e-5, 1e-6, 1, -1e-5, -2, -1e-4}};
+        double[] b = {-1000, -1e-4, 0};
+        double[][] c = {{1, -0.01, -1e-6, 1000, 1e-4, 1e-5}, {300, 1e-5, -1e-6, 10, 0, 1e-4},
+            {5, 1e-6, 1, 10, -1e-4, 0}};
+        int[] ends = {0, 3, 4};
+        int[] endsBehind = {0, 3, 3};
+        int[] turns = {100, 100, 101};
+        for (int k = 0; k < a.length; k++) {
+            double[][] row = {a[k]};
+            double[] right = {b[k]};
+            String name = "100 turns, problem " + k;
+            end(check, name, Build.problem(row, right, c[k]), 100, ends[k]);
+            Plain plain = new Plain(row, right, c[k], true);
+            check.same(name + ", with turns enough", plain.interior(200), endsBehind[k]);
+            check.same(name + ", turns needed", plain.effort, turns[k]);
         }
     }
 }
